@@ -399,8 +399,14 @@ public final class GrownKinds {
             wanted[i] = thingReader.text[i];
             weight += Speller.weightOf(wanted[i]);
         }
-        int many = (int) census.thingsAt(kind, n);
-        for (int rank = 0; rank < many; rank++) {
+        // The first sign tells the TERM, if there are two or more, and so where among the RANKS it is.
+        int from = 0;
+        int to = (int) census.thingsAt(kind, n);
+        for (int term = 0; now.termCount[kind] > 1 && term <= wanted[0] - '0'; term++) {
+            from = term == 0 ? 0 : from + (int) census.byTerm(kind, term - 1, n);
+            to = from + (int) census.byTerm(kind, term, n);
+        }
+        for (int rank = from; rank < to; rank++) {
             speller.spell(kind, n, rank, stamp);
             if (speller.signs == length && speller.weight == weight
                     && thingReader.read(kind, speller.text, length) == n && thingReader.holds(wanted, length)) {
@@ -1259,6 +1265,8 @@ public final class GrownKinds {
         /** Of a sequence: how many of so many THINGS, by size and letter. */
         private final long[] rows = new long[PARTS_MOST * ROW_BLOCK];
         private final long[] ways = new long[SIZES];
+        /** Of a bag, a set: the rows above, while there were no THINGS in it above a size. */
+        private final long[] stages = new long[PARTS_MOST * ROW_BLOCK];
 
         Census(Grammar of) {
             grammar = of;
@@ -1432,6 +1440,9 @@ public final class GrownKinds {
             clearCells(own, base, n);
             if (n == 0) {
                 clearRows(part);
+                if (mode == PLAIN) {
+                    keepStage(part, 0);
+                }
                 own[base] = many == 0 && type != RING ? 1 : 0;
                 return;
             }
@@ -1527,6 +1538,30 @@ public final class GrownKinds {
                     }
                 }
             }
+            if (mode == PLAIN) {
+                keepStage(part, size);
+            }
+        }
+
+        /** By their number, if that is told; else all together, as of number 0. */
+        private void keepStage(int part, int size) {
+            int base = part * ROW_BLOCK + size * BLOCK;
+            for (int n = 0; n <= grammar.most; n++) {
+                long all = 0;
+                for (int j = 0; j <= longest(part); j++) {
+                    long here = rows[part * ROW_BLOCK + j * BLOCK + n * SIZES];
+                    stages[base + j * SIZES + n] = here;
+                    all = plus(all, here);
+                }
+                if (grammar.value[part] == 0) {
+                    stages[base + n] = all;
+                }
+            }
+        }
+
+        /** How many bags (sets) of a number of THINGS (0 if none is told) there are, of sizes up to one. */
+        long bagsUpTo(int part, int many, int n, int size) {
+            return stages[part * ROW_BLOCK + size * BLOCK + many * SIZES + n];
         }
 
         private void addClass(int part, int n, int size, int k) {
@@ -1635,7 +1670,6 @@ public final class GrownKinds {
         final int[] codes = new int[SIZES];
         private final RingList[] rings = new RingList[PARTS_MOST * SIZES];
         private int inside = 0;
-        private boolean unlike = false;
 
         Sequences(Grammar of, Census by) {
             grammar = of;
@@ -1671,25 +1705,17 @@ public final class GrownKinds {
             }
         }
 
-        /** How many bags (sets) of `count` THINGS (NONE: any number) of sizes up to `top` there are. */
-        private long upTo(int count, int n, int top) {
-            if (n == 0) {
-                return count <= 0 ? 1 : 0;
-            }
-            if (top < 1 || count == 0) {
-                return 0;
-            }
-            return within(count, n, top, census.of(inside, top));
-        }
-
-        /** Likewise, if of the size `top` only the first `few` may stand there. */
-        private long within(int count, int n, int top, long few) {
+        /** How many bags (sets) have THINGS of sizes up to one, and only the first few of this size. */
+        private long bagsWithin(int part, int count, int n, int size, long few) {
+            int told = grammar.value[part];
             long sum = 0;
-            for (int i = 0; i * top <= n && (count < 0 || i <= count); i++) {
-                long ways = picks(few, i, unlike);
-                if (ways > 0) {
-                    sum = plus(sum, times(ways, upTo(count < 0 ? count : count - i, n - i * top, top - 1)));
+            for (int i = 0; i * size <= n && (told == 0 || i <= count); i++) {
+                long ways = picks(few, i, grammar.type[part] == SET);
+                if (ways == 0) {
+                    return sum;
                 }
+                long others = census.bagsUpTo(part, told == 0 ? 0 : count - i, n - i * size, size - 1);
+                sum = plus(sum, times(ways, others));
             }
             return sum;
         }
@@ -1698,29 +1724,32 @@ public final class GrownKinds {
         void findBag(int part, int n, int rank) {
             many = 0;
             inside = grammar.inside[part];
-            unlike = grammar.type[part] == SET;
-            int count = grammar.value[part] == 0 ? NONE : grammar.value[part];
+            int count = grammar.value[part];
+            if (count == 1) {
+                add(n, rank);
+                return;
+            }
             int left = n;
             long number = rank;
             for (int i = 0; i < SIZES && left > 0; i++) {
                 int size = 1;
-                while (size < left && upTo(count, left, size) <= number) {
+                while (size < left && census.bagsUpTo(part, count, left, size) <= number) {
                     size++;
                 }
                 long low = 0;
                 long high = Math.min(RANKS, census.of(inside, size)) - 1;
                 while (low < high) {
                     long middle = (low + high) / 2;
-                    if (within(count, left, size, middle + 1) > number) {
+                    if (bagsWithin(part, count, left, size, middle + 1) > number) {
                         high = middle;
                     } else {
                         low = middle + 1;
                     }
                 }
-                number -= within(count, left, size, low);
+                number -= bagsWithin(part, count, left, size, low);
                 add(size, low);
                 left -= size;
-                count = count < 0 ? count : count - 1;
+                count = Math.max(0, count - 1);
             }
         }
 
