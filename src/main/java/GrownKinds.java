@@ -74,8 +74,8 @@ public final class GrownKinds {
     private int faultNumber = 0;
     private int faultPlace = NONE;
     private final Leaning leaning = new Leaning(now);
-    private final Census census = new Census(now);
-    private final Ledger ledger = new Ledger(now, new Census(now));
+    private final Census census = new Census(now, true);
+    private final Ledger ledger = new Ledger(now, new Census(now, false));
     private final Speller speller = new Speller(now, census, new Sequences(now, census));
     private final ThingReader thingReader = new ThingReader(now);
     private final Roll roll = new Roll(speller);
@@ -452,7 +452,14 @@ public final class GrownKinds {
         if (many == 0) {
             return NONE;
         }
-        roll.call(kind, n, many, stamp);
+        int which = kind * SIZES + n;
+        if (!roll.called[which]) {
+            roll.begin(which);
+            for (int rank = 0; rank < many; rank++) {
+                speller.spell(kind, n, rank, stamp);
+                roll.note(which, rank);
+            }
+        }
         return 0;
     }
 
@@ -1266,10 +1273,12 @@ public final class GrownKinds {
         private final long[] rows = new long[PARTS_MOST * ROW_BLOCK];
         private final long[] ways = new long[SIZES];
         /** Of a bag, a set: the rows above, while there were no THINGS in it above a size. */
-        private final long[] stages = new long[PARTS_MOST * ROW_BLOCK];
+        private final long[] stages;
 
-        Census(Grammar of) {
+        /** Stages are for finding bags by RANK: a census that only counts has none. */
+        Census(Grammar of, boolean hasStages) {
             grammar = of;
+            stages = new long[hasStages ? PARTS_MOST * ROW_BLOCK : 0];
         }
 
         /** Counts by a letter (0 .. 25), PLAIN or LABELLED. */
@@ -1440,9 +1449,7 @@ public final class GrownKinds {
             clearCells(own, base, n);
             if (n == 0) {
                 clearRows(part);
-                if (mode == PLAIN) {
-                    keepStage(part, 0);
-                }
+                keepStage(part, 0);
                 own[base] = many == 0 && type != RING ? 1 : 0;
                 return;
             }
@@ -1538,13 +1545,14 @@ public final class GrownKinds {
                     }
                 }
             }
-            if (mode == PLAIN) {
-                keepStage(part, size);
-            }
+            keepStage(part, size);
         }
 
         /** By their number, if that is told; else all together, as of number 0. */
         private void keepStage(int part, int size) {
+            if (mode != PLAIN || stages.length == 0) {
+                return;
+            }
             int base = part * ROW_BLOCK + size * BLOCK;
             for (int n = 0; n <= grammar.most; n++) {
                 long all = 0;
@@ -1561,7 +1569,8 @@ public final class GrownKinds {
 
         /** How many bags (sets) of a number of THINGS (0 if none is told) there are, of sizes up to one. */
         long bagsUpTo(int part, int many, int n, int size) {
-            return stages[part * ROW_BLOCK + size * BLOCK + many * SIZES + n];
+            int cell = part * ROW_BLOCK + size * BLOCK + many * SIZES + n;
+            return cell >= 0 && cell < stages.length ? stages[cell] : 0;
         }
 
         private void addClass(int part, int n, int size, int k) {
@@ -2267,12 +2276,14 @@ public final class GrownKinds {
     /** Which THING of a KIND and size has most of something, and how many atoms all have. */
     private static final class Roll {
         private final Speller speller;
-        private final boolean[] called = new boolean[KIND_CELLS];
+        final boolean[] called = new boolean[KIND_CELLS];
         final int[] deepestRank = new int[KIND_CELLS];
         final int[] stiffestRank = new int[KIND_CELLS];
         final int[] fullestRank = new int[KIND_CELLS * LETTERS];
         final int[] atomSums = new int[KIND_CELLS * LETTERS];
-        private final int[] fullest = new int[LETTERS];
+        private int mostDeep = NONE;
+        private int mostStiff = NONE;
+        private final int[] mostAtoms = new int[LETTERS];
 
         Roll(Speller by) {
             speller = by;
@@ -2282,36 +2293,33 @@ public final class GrownKinds {
             Arrays.fill(called, false);
         }
 
-        void call(int kind, int n, int many, int stamp) {
-            int which = kind * SIZES + n;
-            if (called[which]) {
-                return;
-            }
+        void begin(int which) {
             called[which] = true;
-            int deepest = NONE;
-            int stiffest = NONE;
-            Arrays.fill(fullest, NONE);
+            mostDeep = NONE;
+            mostStiff = NONE;
+            Arrays.fill(mostAtoms, NONE);
             Arrays.fill(atomSums, which * LETTERS, which * LETTERS + LETTERS, 0);
-            for (int rank = 0; rank < many; rank++) {
-                speller.spell(kind, n, rank, stamp);
-                if (speller.depth > deepest) {
-                    deepest = speller.depth;
-                    deepestRank[which] = rank;
-                }
-                if (speller.turns > stiffest) {
-                    stiffest = speller.turns;
-                    stiffestRank[which] = rank;
-                }
-                countAtoms(which * LETTERS, rank);
+        }
+
+        /** The THING that has just been spelled. */
+        void note(int which, int rank) {
+            if (speller.depth > mostDeep) {
+                mostDeep = speller.depth;
+                deepestRank[which] = rank;
             }
+            if (speller.turns > mostStiff) {
+                mostStiff = speller.turns;
+                stiffestRank[which] = rank;
+            }
+            countAtoms(which * LETTERS, rank);
         }
 
         private void countAtoms(int base, int rank) {
             for (int letter = 0; letter < LETTERS; letter++) {
                 int atoms = speller.atomCounts[letter];
                 atomSums[base + letter] += atoms;
-                if (atoms > fullest[letter]) {
-                    fullest[letter] = atoms;
+                if (atoms > mostAtoms[letter]) {
+                    mostAtoms[letter] = atoms;
                     fullestRank[base + letter] = rank;
                 }
             }

@@ -452,6 +452,29 @@ public final class PromiseTest {
         due("35", x.deepest(5, 7), 0);
     }
 
+    /** 27: twelve rows for each of seven atoms, and as many brackets, which are not spelled. */
+    private static void deepThings() {
+        String six = "row 1 ".repeat(6);
+        GrownKinds x = Kit.of("grammar most 7 a b c;a=" + six + "b;b=" + six + "c;c=atom x with a or atom y;");
+        due("16", x.things(0, 7), 1);
+        due("27 deep", x.deep(0, 7, 0), 84);
+        due("25 length", x.length(0, 7, 0), 84 * 2 + 7 * 2);
+        due("26 its innermost sign", x.sign(0, 7, 0, 97), 'y');
+        due("26 behind that", x.sign(0, 7, 0, 98), ']');
+        due("35 deepest", x.deepest(0, 7), 0);
+        due("28 atoms", x.atoms(0, 7, 0, 23), 6);
+        due("34 too long to be told", x.shared(0, 0, 7), 0);
+        due("34 short enough", x.shared(0, 0, 1), 1);
+        x = Kit.of("grammar most 7 a b c;a=((((((b))))));b=((((((c))))));c=atom x with a or unit;");
+        due("16", x.things(0, 7), 1);
+        due("25 length", x.length(0, 7, 0), 16);
+        due("27 deep", x.deep(0, 7, 0), 0);
+        due("32", Kit.tells(x, 0, "0x0x0x0x0x0x0x1-"), 0);
+        due("33", x.told(0), 7);
+        due("32 too large", Kit.tells(x, 0, "0x0x0x0x0x0x0x0x1-"), -4);
+        due("32 no end", Kit.tells(x, 0, "0x".repeat(20)), -4);
+    }
+
     /** 34 to 39. */
     private static void lists() {
         GrownKinds x = Kit.of("grammar most 4 a b c;a=atom x or row 2 atom x or bag (atom x or atom y);"
@@ -607,6 +630,7 @@ public final class PromiseTest {
         listed();
         telling();
         longTexts();
+        deepThings();
         lists();
         boxes();
         deals();
