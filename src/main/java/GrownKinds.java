@@ -453,7 +453,7 @@ public final class GrownKinds {
             return NONE;
         }
         int which = kind * SIZES + n;
-        if (!roll.called[which]) {
+        if (!roll.has(which)) {
             roll.begin(which);
             for (int rank = 0; rank < many; rank++) {
                 speller.spell(kind, n, rank, stamp);
@@ -1592,8 +1592,9 @@ public final class GrownKinds {
         private final Grammar grammar;
         private final Census census;
         private boolean hasLabelled = false;
-        private final boolean[] hasLetter = new boolean[LETTERS];
-        private final boolean[] hasWithout = new boolean[KINDS_MOST * TERMS_MOST];
+        /** Letters, TERMS (ten of each KIND) that have been counted by, without, as bits. */
+        private int lettersDone = 0;
+        private long termsDone = 0;
         private final long[] labels = new long[KIND_CELLS];
         private final long[] marks = new long[LETTERS * KIND_CELLS * SIZES];
         private final long[] rest = new long[KINDS_MOST * TERMS_MOST * KIND_CELLS];
@@ -1605,8 +1606,8 @@ public final class GrownKinds {
 
         void forget() {
             hasLabelled = false;
-            Arrays.fill(hasLetter, false);
-            Arrays.fill(hasWithout, false);
+            lettersDone = 0;
+            termsDone = 0;
         }
 
         private void keep(long[] into, int base) {
@@ -1628,10 +1629,10 @@ public final class GrownKinds {
 
         long markedThings(int kind, int n, int letter, int k) {
             int base = letter * KIND_CELLS * SIZES;
-            if (!hasLetter[letter]) {
+            if ((lettersDone >> letter & 1) == 0) {
                 census.take(letter);
                 keepMarks(base);
-                hasLetter[letter] = true;
+                lettersDone |= 1 << letter;
             }
             return k > n ? 0 : marks[base + kind * BLOCK + n * SIZES + k];
         }
@@ -1648,7 +1649,7 @@ public final class GrownKinds {
 
         long thingsWithout(int kind, int term, int of, int n) {
             int which = kind * TERMS_MOST + term;
-            if (!hasWithout[which]) {
+            if ((termsDone >> which & 1) == 0) {
                 boolean was = grammar.isOff(kind, term);
                 if (!was) {
                     grammar.flip(kind, term);
@@ -1658,7 +1659,7 @@ public final class GrownKinds {
                 if (!was) {
                     grammar.flip(kind, term);
                 }
-                hasWithout[which] = true;
+                termsDone |= 1L << which;
             }
             return rest[which * KIND_CELLS + of * SIZES + n];
         }
@@ -2276,7 +2277,8 @@ public final class GrownKinds {
     /** Which THING of a KIND and size has most of something, and how many atoms all have. */
     private static final class Roll {
         private final Speller speller;
-        final boolean[] called = new boolean[KIND_CELLS];
+        /** KINDS and sizes whose THINGS have been called up, as bits. */
+        private long called = 0;
         final int[] deepestRank = new int[KIND_CELLS];
         final int[] stiffestRank = new int[KIND_CELLS];
         final int[] fullestRank = new int[KIND_CELLS * LETTERS];
@@ -2290,11 +2292,15 @@ public final class GrownKinds {
         }
 
         void forget() {
-            Arrays.fill(called, false);
+            called = 0;
+        }
+
+        boolean has(int which) {
+            return (called >> which & 1) != 0;
         }
 
         void begin(int which) {
-            called[which] = true;
+            called |= 1L << which;
             mostDeep = NONE;
             mostStiff = NONE;
             Arrays.fill(mostAtoms, NONE);
