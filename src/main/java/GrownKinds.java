@@ -616,7 +616,8 @@ public final class GrownKinds {
     }
 
     private static long plus(long a, long b) {
-        return Math.min(HUGE, a + b);
+        long sum = a + b;
+        return sum > HUGE ? HUGE : sum;
     }
 
     private static long times(long a, long b) {
@@ -1825,7 +1826,7 @@ public final class GrownKinds {
             for (int i = 0; i < many; i++) {
                 int there = codes[(turn + i) % many];
                 if (there != codes[i]) {
-                    return Integer.compare(there, codes[i]);
+                    return there - codes[i];
                 }
             }
             return 0;
@@ -2203,12 +2204,12 @@ public final class GrownKinds {
             int b = starts[other];
             while (a < starts[one + 1] && b < starts[other + 1]) {
                 if (text[a] != text[b]) {
-                    return Integer.compare(text[a], text[b]);
+                    return text[a] - text[b];
                 }
                 a++;
                 b++;
             }
-            return Integer.compare(starts[one + 1] - a, starts[other + 1] - b);
+            return starts[one + 1] - a - (starts[other + 1] - b);
         }
 
         private void sort(int base, int many, boolean unlike) {
@@ -2267,7 +2268,7 @@ public final class GrownKinds {
                 int a = text[from + (one + i) % signs];
                 int b = text[from + (other + i) % signs];
                 if (a != b) {
-                    return Integer.compare(a, b);
+                    return a - b;
                 }
             }
             return 0;

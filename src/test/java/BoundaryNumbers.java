@@ -63,25 +63,22 @@ final class BoundaryNumbers extends Sentences {
 
     private static void objects() {
         sentence("What it is", "An object is used for at most 512 calls after it has been made; what later calls answer is free.");
-        GrownKinds x = Kit.of("grammar most 2 a;a=row atom x or atom y;");
-        // one feed, one more, end, grammar: 512 calls with those behind
-        int calls = 4 + 1;
-        for (int i = 0; i < 3 && calls < 500; i++) {
-            for (int n = 0; n <= 2; n++) {
-                due("takes", x.takes(0, n % 2), 1);
-                due("things", x.things(0, 1), 1);
-                due("undo", x.undo(), 0);
-                due("length", x.length(0, 2, 0), 5);
-                due("hangs", x.hangs(0, 1), 0);
-                calls += 5;
-            }
+        String text = "grammar most 2 a;a=row atom x or atom y;";
+        GrownKinds x = Kit.of(text);
+        // end(0), feed for twenty bytes each, end, grammar
+        int calls = 1 + (text.length() + 19) / 20 + 1 + 1;
+        while (calls + 5 <= 512) {
+            calls += 5;
+            due("takes, one of five up to call " + calls, x.takes(0, calls % 2), 1);
+            due("things", x.things(0, 1), 1);
+            due("undo", x.undo(), 0);
+            due("length", x.length(0, 2, 0), 5);
+            due("hangs", x.hangs(0, 1), 0);
         }
         while (calls < 512) {
             calls++;
             due("call " + calls, x.deepest(0, 2), 0);
         }
-        GrownKinds other = new GrownKinds();
-        due("of another object", other.count(3), 0);
     }
 
     private static void newObject() {
@@ -191,6 +188,23 @@ final class BoundaryNumbers extends Sentences {
         due("count(5)", x.count(5), 0);
         due("grammar", x.grammar(), 0);
         due("end of 400", full(400).end(400), 400);
+        x = new GrownKinds();
+        due("feed", feed(x, "grammar most 34 abcd"), 20);
+        due("end in a word", x.end(18), 18);
+        due("grammar", x.grammar(), -4);
+        due("the place of a number behind it", x.fault(1), 13);
+        due("feed", feed(x, "grammar most 34 abcd"), 20);
+        due("end in a number", x.end(14), 14);
+        due("grammar", x.grammar(), -4);
+        due("the end is the end", x.fault(1), 14);
+        due("feed", feed(x, "grammar most 3 abcde"), 20);
+        due("end in a word", x.end(17), 17);
+        due("grammar", x.grammar(), -4);
+        due("the end is the end", x.fault(1), 17);
+        for (String last : new String[] {"a", "7", " ", ";"}) {
+            due("grammar of 400", Kit.grammar(x, "grammar most 3 a;" + " ".repeat(382) + last), last.equals(" ") ? 1 : -4);
+            due("the last byte of 400", x.fault(1), last.equals("a") ? 400 : last.equals(" ") ? -1 : 399);
+        }
 
         sentence("3", "NONE, and nothing happens, if it has not so many, or n is below 0.");
         x = new GrownKinds();
@@ -227,6 +241,13 @@ final class BoundaryNumbers extends Sentences {
         due("undo", x.undo(), -5);
         due("grammar of a smaller one", Kit.grammar(x, "grammar most 0 z;z=unit;"), 2);
         due("things(1, 0)", x.things(1, 0), -2);
+        GrownKinds y = new GrownKinds();
+        for (String text : States.GRAMMARS) {
+            due("grammar in place of another", Kit.grammar(y, text), text.split(";").length);
+            States.same("in place of another", States.answers(y), States.answers(Kit.of(text)));
+            due("takes", y.takes(0, 0), y.terms(0) - 1);
+            States.answers(y);
+        }
 
         sentence("4", "how many LINES (0: there is none then).");
         String names = "grammar most 7 a b c d e f;";
@@ -401,6 +422,7 @@ final class BoundaryNumbers extends Sentences {
         due("undo", x.undo(), 5);
         due("letters", x.letters(0), 16);
         due("without a LINE", Kit.of("grammar most 5 a;").letters(0), 0);
+        due("the last of 24", Kit.of("grammar most 5 a;a=" + "unit with ".repeat(23) + "atom z;").letters(0), 1 << 25);
 
         sentence("9", "-2 likewise.");
         noKind(two()::letters);
@@ -414,6 +436,7 @@ final class BoundaryNumbers extends Sentences {
         due("that KIND alone", x.uses(1), 32);
         due("none", x.uses(2), 0);
         due("without a LINE", x.uses(5), 0);
+        due("the last of 24", Kit.of("grammar most 5 a b;a=" + "unit with ".repeat(23) + "b;").uses(0), 2);
         due("takes", x.takes(0, 1), 3);
         due("not in OFF ones", x.uses(0), 1 | 2 | 4);
         due("takes", x.takes(0, 0), 2);
@@ -566,6 +589,9 @@ final class BoundaryNumbers extends Sentences {
         due("sets of size 0", x.labelled(2, 0), 1);
         due("sets of size 7", x.labelled(2, 7), 1);
         due("rows of two letters", x.labelled(3, 7), 5040 * 128);
+        GrownKinds six = Kit.of("grammar most 7 a b c d e f;a=atom x;f=bag 2 a or row 2 a;");
+        due("the last of six KINDS", six.labelled(5, 2), 3);
+        due("the first of six KINDS", six.labelled(0, 1), 1);
         due("none", x.labelled(3, 6), 0);
         due("takes", x.takes(3, 0), 0);
         due("none", x.labelled(3, 7), 0);
@@ -616,6 +642,9 @@ final class BoundaryNumbers extends Sentences {
             due("marked(0, 0, 0, " + k + ")", x.marked(0, 0, 0, k), k == 0 ? 1 : 0);
             due("marked(0, 1, 0, " + k + ")", x.marked(0, 1, 0, k), k == 0 ? 2 : k == 1 ? 1 : 0);
         }
+        for (String text : States.GRAMMARS) {
+            markedAsCounted(Kit.of(text));
+        }
         long[] rings = {1, 1, 3, 4, 3, 1, 1, 0};
         for (int k = 0; k <= 7; k++) {
             due("marked(1, 6, 0, " + k + ")", x.marked(1, 6, 0, k), rings[k]);
@@ -634,6 +663,23 @@ final class BoundaryNumbers extends Sentences {
         }
         due("k above the size is such", two().marked(0, 2, 23, 7), 0);
         noGrammar(kind -> new GrownKinds().marked(kind, 0, 0, 0));
+    }
+
+    /** Against the atoms of all THINGS, one by one. */
+    private static void markedAsCounted(GrownKinds y) {
+        for (int kind = 0; kind < y.count(0); kind++) {
+            for (int n = 0; n <= y.count(1) && y.things(kind, n) <= 200; n++) {
+                for (int letter : new int[] {0, 16, 18, 23, 24, 25}) {
+                    long[] found = new long[8];
+                    for (int rank = 0; rank < y.things(kind, n); rank++) {
+                        found[y.atoms(kind, n, rank, letter)]++;
+                    }
+                    for (int k = 0; k <= 7; k++) {
+                        due("marked(" + kind + ", " + n + ", " + letter + ", " + k + ")", y.marked(kind, n, letter, k), found[k]);
+                    }
+                }
+            }
+        }
     }
 
     private static void by() {
@@ -672,6 +718,10 @@ final class BoundaryNumbers extends Sentences {
         due("takes", x.takes(0, 2), 2);
         due("OFF, too", x.without(0, 1, 1, 5), 1);
         due("one that is OFF", x.without(0, 2, 1, 5), 32);
+        GrownKinds six = Kit.of("grammar most 7 a b c d e f;a=atom x or atom y;f=bag 2 a or row 2 a;");
+        due("the last of six KINDS", six.without(0, 1, 5, 2), 2);
+        due("the last of six KINDS", six.without(5, 1, 5, 2), 3);
+        due("the first of six KINDS", six.without(5, 1, 0, 1), 2);
         due("things as before", x.things(1, 5), 32);
         due("off as before", x.off(0), 4);
         due("acts as before", x.count(4), 1);
@@ -754,6 +804,7 @@ final class BoundaryNumbers extends Sentences {
         due("takes another one", x.takes(0, 0), 3);
         due("not OFF ones", x.idle(), 3);
         due("none", two().idle(), 0);
+        due("six KINDS, the first PART in brackets", Kit.of("grammar most 5 a b c d e f;a=(atom x or row 6 atom x);").idle(), 0);
         due("no TERM at all", Kit.of("grammar most 5 a b c d e f;").idle(), 0);
         due("of MOST 0", Kit.of("grammar most 0 a;a=" + TEN.replace("unit", "atom x") + ";").idle(), 10);
         due("of size MOST alone", Kit.of("grammar most 7 a;a=row 7 atom x;").idle(), 0);

@@ -119,6 +119,9 @@ final class BoundaryTerms extends Sentences {
         due("a", sound("grammar most 3 a;a=atom a;", 2).letters(0), 1);
         due("z", sound("grammar most 3 a;a=atom z;", 2).letters(0), 1 << 25);
         faulty("grammar most 3 a;a=atom 1;", 1, 24);
+        faulty("grammar most 3 a;a=atom;", 1, 23);
+        faulty("grammar most 3 a;a=(atom);", 1, 24);
+        faulty("grammar most 3 a;a=atom", 1, 23);
         faulty("grammar most 3 a;a=atom A;", 1, 24);
         for (String four : FOUR) {
             int at = 20 + four.length();
@@ -197,6 +200,12 @@ final class BoundaryTerms extends Sentences {
             String shorter = word.substring(0, word.length() - 1);
             GrownKinds x = sound("grammar most 3 " + longer + " " + shorter + ";" + longer + "=unit;" + shorter + "=atom x with " + longer + ";", 3);
             due("things(1, 1)", x.things(1, 1), 1);
+            for (int i = 0; i < word.length(); i++) {
+                String other = word.substring(0, i) + (char) ((word.charAt(i) - 'a' + 1) % 26 + 'a') + word.substring(i + 1);
+                x = sound("grammar most 3 a " + other + ";a=atom x or " + other + ";" + other + "=unit with unit;", 3);
+                due("uses(0) of " + other, x.uses(0), 2);
+                faulty("grammar most 3 a;a=" + other + " atom x;", 2, 19);
+            }
         }
         faulty("grammar most 3 a a;", 2, 17);
         faulty("grammar most 3 ab a b ab;", 2, 22);
@@ -364,6 +373,15 @@ final class BoundaryTerms extends Sentences {
         due("three of size 2", x.things(2, 2), 0);
 
         sentence("II", "NAME: those of that KIND.");
+        // trees of two branches each, in order, in none, in none and unlike, and of three in a ring
+        long[][] trees = {{0, 1, 1, 2, 5, 14, 42, 132}, {0, 1, 1, 1, 2, 3, 6, 11}, {0, 1, 0, 0, 0, 0, 0, 0}, {0, 1, 0, 1, 0, 1, 0, 2}};
+        String[] branches = {"row 2 a", "bag 2 a", "set 2 a", "ring 3 a"};
+        for (int i = 0; i < 4; i++) {
+            GrownKinds tree = Kit.of("grammar most 7 a;a=atom x or " + branches[i] + ";");
+            for (int n = 0; n <= 7; n++) {
+                due("trees of " + branches[i] + " of size " + n, tree.things(0, n), trees[i][n]);
+            }
+        }
         x = Kit.of("grammar most 3 a b c;a=b;b=unit or atom x or row 2 atom x;");
         for (int n = 0; n <= 3; n++) {
             due("of size " + n, x.things(0, n), x.things(1, n));
@@ -386,7 +404,12 @@ final class BoundaryTerms extends Sentences {
                 }
             }
         }
-        GrownKinds x = Kit.of(head + "ring 3 a;");
+        long[] necks = {0, 8, 36, 176, 1044, 6560, 43800, 299600};
+        GrownKinds x = Kit.of("grammar most 7 a b;a=" + TEN.replace("unit", "atom x").replaceFirst("atom x or atom x or ", "") + ";b=ring a;");
+        for (int n = 1; n <= 7; n++) {
+            due("rings of " + n + " of eight", x.things(1, n), necks[n]);
+        }
+        x = Kit.of(head + "ring 3 a;");
         spelled(x, 1, 3, "(0x0x0x)", "(0x0x1y)", "(0x0x2z)", "(0x1y1y)", "(0x1y2z)", "(0x2z1y)", "(0x2z2z)", "(1y1y1y)",
             "(1y1y2z)", "(1y2z2z)", "(2z2z2z)");
         x = Kit.of("grammar most 4 a b c d e;a=atom x or atom y with atom y;b=row 2 a;c=bag 2 a;d=set 2 a;e=ring 2 a;");
@@ -422,6 +445,11 @@ final class BoundaryTerms extends Sentences {
         sentence("III", "EMPTY (in finitely many steps):");
         GrownKinds x = Kit.of("grammar most 3 a b c d e f;f=e or f with atom x;e=d;d=c;c=b;b=a;a=unit;");
         due("by six steps", x.empty(5), 1);
+        x = Kit.of("grammar most 3 a b c d e f;a=b;b=c with c;c=(d);d=e or atom x;e=row f;f=atom y with e;");
+        due("by five steps the other way", x.empty(0), 1);
+        due("by none", x.empty(5), 0);
+        x = Kit.of("grammar most 3 a b c d e f;a=b;b=((c));c=d;d=(e);e=f;f=unit;");
+        due("by six steps the other way", x.empty(0), 1);
         x = Kit.of("grammar most 3 a b;a=atom x with b;b=a with b or a;");
         due("by no end of steps", x.empty(0), 0);
         due("by no end of steps", x.empty(1), 0);
@@ -444,6 +472,9 @@ final class BoundaryTerms extends Sentences {
         due("empty NAME", x.empty(2), 0);
         due("empty TERM", x.empty(4), 1);
         due("empty TERM", x.empty(5), 0);
+        due("empty TERM of 24", Kit.of("grammar most 3 a;a=unit" + repeat(" with unit", 23) + ";").empty(0), 1);
+        due("empty TERM of 24, the last one not", Kit.of("grammar most 3 a;a=" + repeat("unit with ", 23) + "atom x;").empty(0), 0);
+        due("empty TERM of 24, the first one not", Kit.of("grammar most 3 a;a=atom x" + repeat(" with unit", 23) + ";").empty(0), 0);
         x = Kit.of("grammar most 3 a b c d;a=atom x or atom y or unit;b=atom x or atom y;c=(atom x or unit);d=(atom x or atom y) with unit;");
         due("empty by the last TERM", x.empty(0), 1);
         due("empty by none", x.empty(1), 0);
@@ -462,6 +493,8 @@ final class BoundaryTerms extends Sentences {
         x = Kit.of("grammar most 3 a b c d e f;a=b with c with d;b=unit;c=unit with b;d=atom x;e=b with d with d;f=b with c with row d;");
         due("the one that is not EMPTY", x.leans(0), 8);
         due("two that are not", x.leans(4), 0);
+        due("the last of 24", Kit.of("grammar most 3 a b;a=" + repeat("unit with ", 23) + "b;").leans(0), 2);
+        due("the first of 24", Kit.of("grammar most 3 a b;a=b" + repeat(" with unit", 23) + ";").leans(0), 2);
         due("all are", x.leans(5), 2 + 4 + 8);
 
         sentence("III", "NAME: on that KIND;");
@@ -595,6 +628,13 @@ final class BoundaryTerms extends Sentences {
         due("length of one of 201", x.length(1, 0, 199), -3);
         due("deepest of 201", x.deepest(1, 0), -3);
         due("of another size", x.length(1, 1, 0), 2);
+        for (String four : new String[] {"row", "bag", "set", "ring"}) {
+            GrownKinds y = Kit.of("grammar most 1 a b c;b=(unit or unit) with (unit or unit) with (unit or unit) with c with c;"
+                + "c=unit or unit or unit or unit or unit;a=" + four + " 1 (atom x with b);");
+            due("200 of " + four, y.things(0, 1), 200);
+            due("the last of 200 of " + four, y.length(0, 1, 199), 13);
+            due("the last sign but one", y.sign(0, 1, 199, 10), '4');
+        }
         due("takes one of them", x.takes(1, 1), 2);
         due("length of one of 200 then", x.length(1, 0, 199), 11);
         due("takes it back", x.undo(), 0);
@@ -609,9 +649,19 @@ final class BoundaryTerms extends Sentences {
         long[] factorial = {1, 1, 2, 6, 24, 120, 720, 5040};
         for (int n = 0; n <= 7; n++) {
             due("rows of size " + n, x.labelled(0, n), factorial[n]);
+            due("rings of size " + n, Kit.of("grammar most 7 a;a=ring atom x;").labelled(0, n), n == 0 ? 0 : factorial[n - 1]);
             due("bags of size " + n, x.labelled(1, n), 1);
         }
         due("without atoms there is one way each", x.labelled(2, 0), 2);
+        // of i and j atoms in bags the first has any i of the numbers
+        for (int i = 0; i <= 7; i++) {
+            for (int j = 0; i + j <= 7; j++) {
+                String one = i == 0 ? "unit" : "bag " + i + " atom x";
+                String other = j == 0 ? "unit" : "bag " + j + " atom x";
+                GrownKinds y = Kit.of("grammar most 7 a;a=" + one + " with " + other + ";");
+                due("labelled " + one + " with " + other, y.labelled(0, i + j), factorial[i + j] / factorial[i] / factorial[j]);
+            }
+        }
 
         sentence("V", "Two are alike only if they are with all numbers (in a set, too: THINGS like but for their numbers may stand in it"
             + " together here).");
@@ -652,11 +702,15 @@ final class BoundaryTerms extends Sentences {
 
         sentence("V", "It is LABELLED in n! ways by its SYMMETRIES.");
         x = Kit.of("grammar most 7 a b c;a=bag atom x;b=row atom x;c=ring atom x;");
-        due("a bag of none", x.labels(0, 0, 0), 1);
-        due("a bag of seven", x.labels(0, 7, 0), 1);
-        due("a row of seven", x.labels(1, 7, 0), 5040);
-        due("a ring of seven", x.labels(2, 7, 0), 720);
-        due("a ring of one", x.labels(2, 1, 0), 1);
+        int ways = 1;
+        for (int n = 0; n <= 7; n++) {
+            due("a bag of " + n, x.labels(0, n, 0), 1);
+            due("a row of " + n, x.labels(1, n, 0), n == 0 ? 1 : ways * n);
+            if (n > 0) {
+                due("a ring of " + n, x.labels(2, n, 0), ways);
+                ways *= n;
+            }
+        }
     }
 
     // ---- VI

@@ -292,6 +292,17 @@ final class BoundaryThings extends Sentences {
         holds("it is spelled in the order of IV", Kit.spelled(y, 1, 6, Kit.tells(y, 1, "{1<(0x0x)>0-<(1y0x)(0x0x)>}")).equals("{0-<(0x1y)(0x0x)>1<(0x0x)>}"));
         due("rings in sets in bags", Kit.tells(y, 1, "{0-<(0x0x)(1y0x)>1<(0x0x)>}"), Kit.tells(y, 1, "{1<(0x0x)>0-<(1y0x)(0x0x)>}"));
         due("it is one", x.count(3), 4);
+        x = Kit.of("grammar most 6 a b c d;a=atom x or row 2 atom y or atom z;b=ring a;c=bag a;d=set (a or unit with a);");
+        for (int n = 1; n <= 6; n++) {
+            for (int rank = 0; rank < Math.min(200, x.things(1, n)) && x.things(1, n) <= 200; rank++) {
+                turned(x, n, rank);
+            }
+            for (int rank = 0; n <= 5 && rank < x.things(2, n); rank++) {
+                due("a bag the other way round", Kit.tells(x, 2, reversed(Kit.spelled(x, 2, n, rank))), rank);
+            }
+        }
+        due("one byte", Kit.tells(Kit.of("grammar most 3 a;a=unit;"), 0, "-"), 0);
+        due("one byte", Kit.tells(Kit.of("grammar most 3 a;a=atom b;"), 0, "b"), 0);
         x = Kit.of("grammar most 7 a b;a=bag (atom x or row 2 atom y);b=a with unit with a;");
         due("two bags side by side", Kit.tells(x, 1, "{0x1[yy]}-{1[yy]0x}"), Kit.tells(x, 1, "{1[yy]0x}-{0x1[yy]}"));
 
@@ -309,6 +320,29 @@ final class BoundaryThings extends Sentences {
         due("the TAPE stays", x.count(5), 4);
     }
 
+    private static final String TOKEN = "(?<=[xz\\]])(?=\\d)";
+
+    /** A ring of a, from each of its THINGS on. */
+    private static void turned(GrownKinds x, int n, int rank) {
+        String text = Kit.spelled(x, 1, n, rank);
+        String[] in = text.substring(1, text.length() - 1).split(TOKEN);
+        for (int turn = 0; turn < in.length; turn++) {
+            StringBuilder other = new StringBuilder("(");
+            for (int i = 0; i < in.length; i++) {
+                other.append(in[(turn + i) % in.length]);
+            }
+            due("tells " + other + ")", Kit.tells(x, 1, other + ")"), rank);
+        }
+    }
+
+    private static String reversed(String text) {
+        StringBuilder other = new StringBuilder();
+        for (String one : text.substring(1, text.length() - 1).split(TOKEN)) {
+            other.insert(0, one);
+        }
+        return "{" + other + "}";
+    }
+
     private static void tellsRefused() {
         sentence("32", "-4: it is none of the sizes 0 .. MOST,");
         GrownKinds x = Kit.of("grammar most 3 a b c d e;a=atom x or atom y;b=bag a with unit;c=set a or set 2 ring a;d=ring 2 a;e=atom x with e or unit;");
@@ -323,6 +357,28 @@ final class BoundaryThings extends Sentences {
         due("MOST, by itself", Kit.tells(x, 4, "0x0x0x1-"), 0);
         due("above MOST, by itself", Kit.tells(x, 4, "0x0x0x0x1-"), -4);
         due("no end", Kit.tells(x, 4, "0x".repeat(20)), -4);
+        // each sign in its turn is left out, put in twice, put in place of all others
+        GrownKinds y = Kit.of("grammar most 7 a b c;a=atom x with b with bag c;b=unit with unit or row 2 c or unit;c=atom y or atom z or set 2 c;");
+        int none = 0;
+        int tried = 0;
+        for (String good : new String[] {"x0--{}", "x2-{0y0y}", "x1[0y0y]{2<1z0y>}", "x2-{2<2<1z0y>0y>}", "x0--{0y2<0y1z>}"}) {
+            due("tells " + good, Kit.tells(y, 0, good) >= 0 ? 1 : 0, 1);
+            for (int i = 0; i < good.length(); i++) {
+                String[] bad = {good.substring(0, i) + good.substring(i + 1), good.substring(0, i) + "!" + good.substring(i + 1),
+                    good.substring(0, i) + "-" + good.substring(i), good.substring(0, i) + "}" + good.substring(i)};
+                for (String text : bad) {
+                    tried++;
+                    none += Kit.tells(y, 0, text) == -4 ? 1 : 0;
+                }
+            }
+        }
+        due("texts that are none of " + tried, none, tried);
+        due("a sign for two units", Kit.tells(Kit.of("grammar most 7 a b;a=atom x with b;b=unit with unit;"), 0, "--"), -4);
+        due("38 atoms in a row", Kit.tells(Kit.of("grammar most 7 a b c d e f;f=row atom x;"), 5, "[" + "x".repeat(38) + "]"), -4);
+        due("8 atoms in a row", Kit.tells(Kit.of("grammar most 7 a b c d e f;f=row atom x;"), 5, "[" + "x".repeat(8) + "]"), -4);
+        due("7 atoms in a row", Kit.tells(Kit.of("grammar most 7 a b c d e f;f=row atom x;"), 5, "[" + "x".repeat(7) + "]"), 0);
+        due("two in a row of one", Kit.tells(Kit.of("grammar most 7 a;a=row 1 atom x;"), 0, "[xx]"), -4);
+        due("none in a row of one", Kit.tells(Kit.of("grammar most 7 a;a=row 1 atom x;"), 0, "[]"), -4);
         due("two alike in a set", Kit.tells(x, 2, "0<0x0x>"), -4);
         due("two in a set", Kit.tells(x, 2, "0<0x1y>"), 0);
         due("rings alike in a set", Kit.tells(x, 2, "1<(0x1y)(1y0x)>"), -4);
@@ -338,6 +394,10 @@ final class BoundaryThings extends Sentences {
         due("of a KIND without a LINE", Kit.tells(Kit.of("grammar most 3 a;"), 0, "-"), -4);
         x = Kit.of("grammar most 5 a b;a=b with atom x;b=a with unit;");
         due("no end", Kit.tells(x, 0, "x-x-x-x-"), -4);
+        due("no end of 40 bytes", Kit.tells(x, 0, "-x".repeat(20)), -4);
+        due("no end of 40 bytes", Kit.tells(x, 1, "x".repeat(40)), -4);
+        x = Kit.of("grammar most 5 a b;b=unit with b with a or unit;a=b with atom x or atom y;");
+        due("no end of 40 bytes", Kit.tells(x, 1, "0-".repeat(20)), -4);
         x = Kit.of("grammar most 0 a;a=" + TEN + ";");
         due("TERM 9", Kit.tells(x, 0, "9-"), 9);
         due("TERM 10", Kit.tells(x, 0, ":-"), -4);
@@ -362,6 +422,14 @@ final class BoundaryThings extends Sentences {
         due("none of 201", Kit.tells(x, 1, "1-1-1-4-4-"), -4);
         due("of another size", Kit.tells(x, 1, "2x"), 0);
         due("takes", x.takes(1, 1), 2);
+        y = Kit.of("grammar most 7 a b c;a=set (atom x or atom y or atom z) or row (atom x or atom y or atom z);b=a with set 2 ring 2 atom z;");
+        due("one of more than 200", Kit.tells(y, 1, "1[0x1y1y0x]<(zz)(zz)>"), -4);
+        due("one of more than 200", Kit.tells(y, 0, "1[0x1y1y0x1y2z]"), -3);
+        due("none of more than 200: two alike in a set", Kit.tells(y, 0, "0<0x1y0x2z1y2z>"), -4);
+        for (int i = 0; i < 50; i++) {
+            due("one that does not end", Kit.tells(y, 0, "0<0x1y"), -4);
+        }
+        due("one that does", Kit.tells(y, 0, "0<0x1y>"), 0);
         due("the last of 200 then", Kit.tells(x, 1, "01-1-1-4-4-"), 199);
     }
 
@@ -423,6 +491,12 @@ final class BoundaryThings extends Sentences {
 
         sentence("34", "as tells() has it (if not LISTED there, too).");
         // y[x][][x] comes ahead of y[][xx][] in c, behind it in d: a and b spell a bag of both each in another order
+        GrownKinds y = Kit.of("grammar most 3 a b c d e f;a=unit with unit;b=atom x with a;c=row 2 atom x;d=row 1 atom x;e=row 3 atom x;f=bag 2 atom x;");
+        due("two units are not an atom and two units", y.shared(0, 1, 0), 0);
+        due("two are not one in a row", y.shared(2, 3, 2), 0);
+        due("two are not three in a row", y.shared(2, 4, 2), 0);
+        due("a row is not a bag", y.shared(2, 5, 2), 0);
+        due("a row is one", y.shared(2, 2, 2), 1);
         String[] four = {"bag", "set", "ring"};
         for (int i = 0; i < 3; i++) {
             x = Kit.of("grammar most 6 a b c d p;p=row atom x;c=atom y with (p with p) with p;d=atom y with p with (p with p);a=" + four[i]
@@ -444,20 +518,20 @@ final class BoundaryThings extends Sentences {
         due("41 and 42 bytes: tells() has them as none", x.shared(2, 2, 0), 0);
 
         sentence("34", "-2: there are none such;");
-        GrownKinds y = words();
-        noKind(kind -> y.shared(kind, 0, 2));
-        noKind(kind -> y.shared(0, kind, 2));
-        noSize(n -> y.shared(0, 1, n));
+        GrownKinds z = words();
+        noKind(kind -> z.shared(kind, 0, 2));
+        noKind(kind -> z.shared(0, kind, 2));
+        noSize(n -> z.shared(0, 1, n));
         noGrammar(kind -> new GrownKinds().shared(kind, kind, 0));
 
         sentence("34", "-3: not LISTED.");
-        GrownKinds z = Kit.of(TWO_HUNDRED);
-        due("of 200", z.shared(0, 0, 0), 200);
-        due("of 201", z.shared(1, 1, 0), -3);
-        due("of 201", z.shared(1, 2, 0), -3);
-        due("kind ahead of it", z.shared(1, 3, 0), -2);
-        due("size ahead of it", z.shared(1, 0, 2), -2);
-        due("of 201 of another size", z.shared(1, 1, 1), 1);
+        x = Kit.of(TWO_HUNDRED);
+        due("of 200", x.shared(0, 0, 0), 200);
+        due("of 201", x.shared(1, 1, 0), -3);
+        due("of 201", x.shared(1, 2, 0), -3);
+        due("kind ahead of it", x.shared(1, 3, 0), -2);
+        due("size ahead of it", x.shared(1, 0, 2), -2);
+        due("of 201 of another size", x.shared(1, 1, 1), 1);
     }
 
     // ---- THINGS of a size together
@@ -467,6 +541,7 @@ final class BoundaryThings extends Sentences {
         GrownKinds x = Kit.of("grammar most 7 a b;a=atom x or row 1 atom x or row 1 bag 1 atom x or row 1 set 1 atom x or atom y;b=unit or unit;");
         due("the first of two", x.deepest(0, 1), 2);
         due("none has any", x.deepest(1, 0), 0);
+        due("of size 0", Kit.of("grammar most 7 a;a=unit or row atom x;").deepest(0, 0), 1);
         due("takes", x.takes(0, 2), 4);
         due("the other one", x.deepest(0, 1), 2);
         due("takes", x.takes(0, 3), 3);
@@ -552,8 +627,6 @@ final class BoundaryThings extends Sentences {
         due("OFF above", x.chance(0, 2, 1, 0), 0);
         due("OFF below", x.chance(0, 2, 1, 1), 1);
         due("6 of 7 below", x.chance(0, 2, 0, 1), 7);
-        x = Kit.of(TWO_HUNDRED.replace("a or unit or atom x", "unit or a"));
-        due("grammar", x.count(3), 4);
         x = Kit.of("grammar most 0 a b;a=b with b or b or unit with unit;b=" + TEN + ";");
         due("100 of 111", x.chance(0, 0, 0, 0), 100);
         due("100 of 111", x.chance(0, 0, 0, 1), 111);
@@ -736,7 +809,6 @@ final class BoundaryThings extends Sentences {
         due("dealt", x.dealt(), 10_001);
         due("in place of the same", x.deal(0, 1, 1, 0), 2);
         due("dealt", x.dealt(), 10_000);
-        due("of no THING", x.deal(1, 0, 0, 3), 1);
         x = Kit.of(TREES);
         due("a deal of 8", x.deal(0, 0, 4, 0), 8);
         due("of no THING, in place of another", x.deal(0, 0, 0, 0), 0);
@@ -758,8 +830,8 @@ final class BoundaryThings extends Sentences {
         due("left", x.left(), 1_000);
         due("1,001", x.deal(2, 0, 1, 0), -3);
         due("left goes on", x.left(), 1_000);
-        // 5 times 1,023 and 3 is 1,022 modulo 1,024, and 999 at last 1,022 steps behind it or fewer
-        due("dealt goes on", x.dealt() >= 0 ? 1 : 0, 1);
+        // 1,023 is no number of the BOX, nor is 5 times it and 3: 1,022; that of 1,022: 1,017; of 1,017: 992
+        due("dealt goes on", x.dealt(), 992);
         due("left goes on", x.left(), 999);
         due("kind ahead of it", x.deal(3, 0, 1, 0), -2);
         due("seed ahead of it", x.deal(2, 0, 1, -1), -2);
@@ -790,7 +862,7 @@ final class BoundaryThings extends Sentences {
         due("all were still", x.dealt(), -1);
         due("no DEAL", new GrownKinds().dealt(), -1);
         due("no DEAL", words().dealt(), -1);
-        due("deal of one", x.deal(1, 0, 1, 0), 1_000);
+        due("deal", x.deal(1, 0, 1, 0), 1_000);
         due("anew", x.anew(), 0);
         due("no DEAL any more", x.dealt(), -1);
     }
@@ -802,7 +874,7 @@ final class BoundaryThings extends Sentences {
         for (int i = 12; i > 0; i--) {
             due("left", x.left(), i);
             due("left, told twice", x.left(), i);
-            due("dealt", x.dealt() / 10_000 == 2 || i > 0 ? 1 : 0, 1);
+            holds("one is dealt", x.dealt() >= 20_000);
         }
         due("all were", x.left(), 0);
         due("dealt", x.dealt(), -1);
@@ -836,6 +908,9 @@ final class BoundaryThings extends Sentences {
         due("takes", x.takes(1, 0), 0);
         due("things(1, 0)", x.things(1, 0), 0);
         due("another KIND", x.takes(0, 0), 9);
+        for (String text : States.GRAMMARS) {
+            States.afterTakes(text);
+        }
 
         sentence("46", "-2: there are none such;");
         noKind(kind -> acting().takes(kind, 0));
@@ -891,6 +966,9 @@ final class BoundaryThings extends Sentences {
         for (int term = 0; term < 9; term++) {
             due("takes", x.takes(0, term), 8 - term);
         }
+        for (String text : States.GRAMMARS) {
+            States.afterUndo(text);
+        }
         due("undo of ten", x.undo(), 9);
         due("off", x.off(0), 1023 - 256);
 
@@ -924,6 +1002,9 @@ final class BoundaryThings extends Sentences {
         due("acts", x.count(4), 0);
         due("things", x.things(1, 0), 10);
         due("none then", x.anew(), 0);
+        for (String text : States.GRAMMARS) {
+            States.afterAnew(text);
+        }
         due("takes", x.takes(1, 0), 1);
         due("takes", x.takes(0, 5), 9);
         due("two", x.anew(), 2);

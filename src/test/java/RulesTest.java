@@ -17,6 +17,8 @@ public final class RulesTest {
     private static final Path SOURCE = Path.of("src/main/java/GrownKinds.java");
     private static final Path DOCUMENT = Path.of("../shared/DOC.md");
 
+    private static final Set<String> FACE = new TreeSet<>();
+
     private RulesTest() {
     }
 
@@ -44,6 +46,7 @@ public final class RulesTest {
             if (!Modifier.isPrivate(method.getModifiers()) && !method.isSynthetic()) {
                 got.add(signature(method));
                 open.add(method.getName());
+                FACE.add(method.getName());
             }
         }
         Kit.due("methods of the document", want.size(), 47);
@@ -71,6 +74,8 @@ public final class RulesTest {
             Kit.holds("1: not public: " + inside, !Modifier.isPublic(inside.getModifiers()));
             for (Method method : inside.getDeclaredMethods()) {
                 Kit.holds("11: parameters of " + method, method.getParameterCount() <= 7);
+                Kit.holds("1: a private method bears a public name: " + method,
+                    !Modifier.isPrivate(method.getModifiers()) || !FACE.contains(method.getName()));
             }
         }
         all.add(GrownKinds.class);
@@ -108,6 +113,7 @@ public final class RulesTest {
         while (arrays.find()) {
             Kit.holds("4: Arrays." + arrays.group(1), Set.of("copyOf", "copyOfRange", "fill").contains(arrays.group(1)));
         }
+        Kit.holds("4: Arrays.fill over an array of boolean", !bare.matches("(?s).*Arrays\\.fill\\([^;]*(true|false)\\);.*"));
         Kit.holds("3: signs of the source are plain", bare.chars().allMatch(c -> c == 10 || c >= 32 && c < 127));
     }
 
@@ -129,12 +135,24 @@ public final class RulesTest {
         }
     }
 
+    /** 8, 11: calls go at most eight deep, the library's among them; few methods come back to themselves. */
+    private static void calls() throws IOException {
+        CallDepth depth = new CallDepth(SOURCE);
+        for (Method method : GrownKinds.class.getDeclaredMethods()) {
+            List<String> chain = depth.deepest("GrownKinds." + method.getName());
+            Kit.holds("11: calls " + chain, chain.size() >= 1 && chain.size() <= 8);
+        }
+        Set<String> due = Set.of("Reader.readExpr", "Reader.readTerm", "Reader.readPart", "Sequences.listRings");
+        Kit.holds("8: come back to themselves: " + depth.recursive(), depth.recursive().equals(due));
+    }
+
     public static void main(String[] args) throws IOException {
         String source = Files.readString(SOURCE);
         face();
         classes();
         words(bare(source));
         lengths(source);
+        calls();
         Kit.finish("RulesTest");
     }
 }
