@@ -1793,22 +1793,27 @@ public final class GrownKinds {
                 }
                 return;
             }
-            if (many >= SIZES) {
-                return;
-            }
             // No THING of the first turn comes ahead of its first one.
             int least = many == 0 ? 0 : codes[0];
-            int place = many;
             for (int size = Math.max(1, least / RANKS); size <= left; size++) {
                 if (census.rowsLeft(part, grammar.value[part] - many - 1, left - size) > 0) {
-                    long end = Math.min(RANKS, census.of(inside, size));
-                    for (int rank = size == least / RANKS ? least % RANKS : 0; rank < end; rank++) {
-                        codes[place] = size * RANKS + rank;
-                        many = place + 1;
-                        listRings(part, left - size, list);
-                        many = place;
-                    }
+                    listRingsBy(part, size, size == least / RANKS ? least % RANKS : 0, left, list);
                 }
+            }
+        }
+
+        /** Goes on by each THING of one size, from a RANK on. */
+        private void listRingsBy(int part, int size, int from, int left, RingList list) {
+            int place = many;
+            if (place >= SIZES) {
+                return;
+            }
+            long end = Math.min(RANKS, census.of(inside, size));
+            for (int rank = from; rank < end; rank++) {
+                codes[place] = size * RANKS + rank;
+                many = place + 1;
+                listRings(part, left - size, list);
+                many = place;
             }
         }
 

@@ -142,7 +142,8 @@ public final class RulesTest {
             List<String> chain = depth.deepest("GrownKinds." + method.getName());
             Kit.holds("11: calls " + chain, chain.size() >= 1 && chain.size() <= 8);
         }
-        Set<String> due = Set.of("Reader.readExpr", "Reader.readTerm", "Reader.readPart", "Sequences.listRings");
+        Set<String> due = Set.of("Reader.readExpr", "Reader.readTerm", "Reader.readPart", "Sequences.listRings",
+                "Sequences.listRingsBy");
         Kit.holds("8: come back to themselves: " + depth.recursive(), depth.recursive().equals(due));
     }
 
